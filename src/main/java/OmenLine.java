@@ -1056,7 +1056,6 @@ public final class OmenLine {
         int parse(Line draft) {
             draft.clear();
             fault = NO_FAULT;
-            faultPlace = 0;
             blocksTold = false;
             behind = 0;
             int lines = 0;
@@ -1195,8 +1194,8 @@ public final class OmenLine {
             return nextToken() && (kind == SEMICOLON || blame(MISPLACED));
         }
 
+        /** Behind the end, whose place is the length. */
         private void checkWhole(Line draft) {
-            place = size;
             int told = draft.omenBits() | draft.guarded | draft.lockBits();
             if (told >> draft.blocks != 0) {
                 blame(NO_BLOCK);

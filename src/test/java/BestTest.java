@@ -52,6 +52,8 @@ public final class BestTest {
         OmenLine z = Checks.line("plain up 0 1;plain up 4 1;");
         C.due("18 none needed", z.fewest(0), 0);
         C.due("18 none needed", z.fewest(1), 0);
+        z.set(1, 2, 0);
+        C.due("18 by what there is now", z.fewest(1), 1);
     }
 
     private static void guards() {
@@ -64,6 +66,10 @@ public final class BestTest {
         OmenLine z = Checks.line("blocks 3;guard 2;plain up 0 1;plain up 4 1;");
         C.due("19 no guard at all", z.guards(1), 0);
         C.due("19 cost", z.guards(0), 3 + 7);
+        z.set(1, 2, 0);
+        z.set(1, 3, 2);
+        C.due("19 by what there is now", z.guards(1), 1);
+        C.due("19 by what there is now", z.guards(0), 3 + 8);
     }
 
     private static void magpies() {
@@ -84,6 +90,18 @@ public final class BestTest {
         // Without: the sceptic is in 0 behind minute 0, the devout one is to enter it in minute 1.
         C.due("20 one is enough", v.magpies(0), 1);
         C.due("20 the least", v.magpies(1), 1);
+        // The heathen one is in 1 for the sweep from 2 to 4; a magpie in 1 or in 2 holds the devout one long enough.
+        OmenLine u = Checks.line("blocks 3;sweep 0;heathen down 1 1;devout down 3 1;");
+        C.due("20 one of two", u.magpies(0), 1);
+        C.due("20 the least of two", u.magpies(1), 2);
+        // The sceptic leaves 3 in 9, where the plain one would be in 7: two magpies of 1, 2, 3.
+        OmenLine s = Checks.line("blocks 5;magpie 0;hearse 4;sceptic up 3 1;plain up 3 1;");
+        C.due("20 two", s.magpies(0), 2);
+        C.due("20 the least two", s.magpies(1), 6);
+        s.set(1, 2, 5);
+        C.due("20 by what there is now", s.magpies(0), 0);
+        s.set(1, 2, 4);
+        C.due("20 by what there is now", s.magpies(1), 2);
     }
 
     private static void starts() {
@@ -110,6 +128,10 @@ public final class BestTest {
         C.due("21 cost", z.starts(0), 0);
         OmenLine w = Checks.line("blocks 2;plain up 9 1;");
         C.due("21 earlier than now", w.starts(0), 2);
+        w.hang(1, 3);
+        w.set(0, 3, 2);
+        C.due("21 by what there is now", w.starts(0), 10);
+        C.due("21 four trains", Checks.line("blocks 2;plain up 0 1;plain up 0 1;plain up 0 1;plain up 0 1;").starts(13), 3);
     }
 
     private static void allowed() {

@@ -27,6 +27,9 @@ public final class ModelTest {
         for (int seed = 0; seed < 3000; seed++) {
             new ModelTest(10000 + seed).runs();
         }
+        for (int seed = 0; seed < 600; seed++) {
+            new ModelTest(20000 + seed).best();
+        }
         C.finish();
     }
 
@@ -106,6 +109,37 @@ public final class ModelTest {
             C.due("bump", x.bump(what), y.bump(what));
             C.due("sum", x.sum(what), y.sum(what));
         }
+    }
+
+    /** Trains on one way that set out close to one another: what is best is neither nothing nor hopeless. */
+    private void best() {
+        StringBuilder s = new StringBuilder("blocks " + (2 + chance.nextInt(5)) + ";");
+        int way = chance.nextInt(2);
+        for (int t = 1 + chance.nextInt(4); t > 0; t--) {
+            s.append(WORDS[7 + chance.nextInt(4)]).append(' ').append(WORDS[11 + way]).append(' ')
+                    .append(chance.nextInt(4) + (4 - t)).append(' ').append(chance.nextInt(10)).append(';');
+        }
+        feed(s.toString());
+        C.due("text", x.text(), y.text());
+        for (int i = 0; i < 3; i++) {
+            int b = chance.nextInt(6);
+            int omen = chance.nextInt(5);
+            C.due("hang", x.hang(b, omen), y.hang(b, omen));
+            C.due("guard", x.guard(b / 2, omen < 3), y.guard(b / 2, omen < 3));
+        }
+        int v = chance.nextInt(11);
+        for (int what = 0; what < 2; what++) {
+            C.due("fewest of " + s, x.fewest(what), y.fewest(what));
+            C.due("guards of " + s, x.guards(what), y.guards(what));
+            C.due("magpies of " + s, x.magpies(what), y.magpies(what));
+            C.due("convert of " + s, x.convert(what), y.convert(what));
+            C.due("mean of " + s, x.mean(v, what), y.mean(v, what));
+            C.due("luck of " + s, x.luck(v, what), y.luck(v, what));
+            C.due("look of " + s, x.look(0, what), y.look(0, what));
+        }
+        int t = chance.nextInt(4);
+        C.due("starts of " + s, x.starts(0), y.starts(0));
+        C.due("starts of " + s, x.starts(10 + t), y.starts(10 + t));
     }
 
     /** What there is, whole. */

@@ -174,6 +174,9 @@ public final class TextTest {
         fault("blockss 5;", 2, 0);
         fault("up 1;", 2, 0);
         fault("down", 2, 0);
+        fault("a", 2, 0);
+        fault("z;", 2, 0);
+        fault("catz 1;", 2, 0);
         fault("blocks;", 2, 6);
         fault("blocks five;", 2, 7);
         fault("blocks", 2, 6);
