@@ -131,142 +131,128 @@ public final class TextTest {
         C.due("4 omens replaced", x.rule(4), 8);
     }
 
-    private static void fault(String text, int fault, int place) {
-        OmenLine x = new OmenLine();
-        C.due("4 text of <" + text + ">", Checks.tell(x, text), -10 - place);
-        C.due("5 fault of <" + text + ">", x.fault(), fault);
-        C.due("4 tape is empty behind <" + text + ">", x.count(2), 0);
-        C.due("4 nothing told by <" + text + ">", x.rule(0) + x.rule(1) + x.rule(2) + x.rule(3) + x.rule(4), 4);
-    }
-
-    private static void taken(String text, int lines) {
-        OmenLine x = new OmenLine();
-        C.due("4 text of <" + text + ">", Checks.tell(x, text), lines);
-        C.due("5 fault of <" + text + ">", x.fault(), 0);
-    }
-
     private static void tokens() {
-        taken("", 0);
-        taken("   ", 0);
-        taken("  blocks   5  ;  ", 1);
-        taken("blocks5;magpie1;lock2 3;plain up0 1;", 4);
-        taken("blocks 05;magpie 00;plain up 09 01;", 3);
-        fault("@", 1, 0);
-        fault("  A", 1, 2);
-        fault("blocks\t5;", 1, 6);
-        fault("blocks 5;\n", 1, 9);
-        fault("blocks -1;", 1, 7);
-        fault("blocks 005;", 1, 7);
-        fault("blocks 0000000000000000000000000000005;", 1, 7);
-        fault("lock 0 123;", 1, 7);
-        fault("lock 01234;", 1, 5);
-        fault("123", 1, 0);
-        fault("blocks 5:", 1, 8);
-        fault("blocks 5;cat 1;cat `", 1, 19);
-        fault("{", 1, 0);
-        fault("/", 1, 0);
+        C.taken("", 0);
+        C.taken("   ", 0);
+        C.taken("  blocks   5  ;  ", 1);
+        C.taken("blocks5;magpie1;lock2 3;plain up0 1;", 4);
+        C.taken("blocks 05;magpie 00;plain up 09 01;", 3);
+        C.refused("@", 1, 0);
+        C.refused("  A", 1, 2);
+        C.refused("blocks\t5;", 1, 6);
+        C.refused("blocks 5;\n", 1, 9);
+        C.refused("blocks -1;", 1, 7);
+        C.refused("blocks 005;", 1, 7);
+        C.refused("blocks 0000000000000000000000000000005;", 1, 7);
+        C.refused("lock 0 123;", 1, 7);
+        C.refused("lock 01234;", 1, 5);
+        C.refused("123", 1, 0);
+        C.refused("blocks 5:", 1, 8);
+        C.refused("blocks 5;cat 1;cat `", 1, 19);
+        C.refused("{", 1, 0);
+        C.refused("/", 1, 0);
     }
 
     private static void misplaced() {
-        fault(";", 2, 0);
-        fault(" 12", 2, 1);
-        fault("block 5;", 2, 0);
-        fault("blockss 5;", 2, 0);
-        fault("up 1;", 2, 0);
-        fault("down", 2, 0);
-        fault("a", 2, 0);
-        fault("z;", 2, 0);
-        fault("catz 1;", 2, 0);
-        fault("blocks;", 2, 6);
-        fault("blocks five;", 2, 7);
-        fault("blocks", 2, 6);
-        fault("blocks  ", 2, 8);
-        fault("blocks 5", 2, 8);
-        fault("blocks 5 ", 2, 9);
-        fault("blocks 5 5;", 2, 9);
-        fault("blocks 5 cat", 2, 9);
-        fault("magpie;", 2, 6);
-        fault("guard ;", 2, 6);
-        fault("lock 1;", 2, 6);
-        fault("lock 1 2 3;", 2, 9);
-        fault("plain 0 0;", 2, 6);
-        fault("plain;", 2, 5);
-        fault("plain upp 0 0;", 2, 6);
-        fault("plain cat 0 0;", 2, 6);
-        fault("plain up;", 2, 8);
-        fault("plain up 0;", 2, 10);
-        fault("plain up 0 0 0;", 2, 13);
-        fault("plain", 2, 5);
-        fault("plain up 1 1", 2, 12);
-        fault("magpie 1;;", 2, 9);
+        C.refused(";", 2, 0);
+        C.refused(" 12", 2, 1);
+        C.refused("block 5;", 2, 0);
+        C.refused("blockss 5;", 2, 0);
+        C.refused("up 1;", 2, 0);
+        C.refused("down", 2, 0);
+        C.refused("a", 2, 0);
+        C.refused("z;", 2, 0);
+        C.refused("catz 1;", 2, 0);
+        C.refused("blocks;", 2, 6);
+        C.refused("blocks five;", 2, 7);
+        C.refused("blocks", 2, 6);
+        C.refused("blocks  ", 2, 8);
+        C.refused("blocks 5", 2, 8);
+        C.refused("blocks 5 ", 2, 9);
+        C.refused("blocks 5 5;", 2, 9);
+        C.refused("blocks 5 cat", 2, 9);
+        C.refused("magpie;", 2, 6);
+        C.refused("guard ;", 2, 6);
+        C.refused("lock 1;", 2, 6);
+        C.refused("lock 1 2 3;", 2, 9);
+        C.refused("plain 0 0;", 2, 6);
+        C.refused("plain;", 2, 5);
+        C.refused("plain upp 0 0;", 2, 6);
+        C.refused("plain cat 0 0;", 2, 6);
+        C.refused("plain up;", 2, 8);
+        C.refused("plain up 0;", 2, 10);
+        C.refused("plain up 0 0 0;", 2, 13);
+        C.refused("plain", 2, 5);
+        C.refused("plain up 1 1", 2, 12);
+        C.refused("magpie 1;;", 2, 9);
     }
 
     private static void bounds() {
-        fault("blocks 1;", 3, 7);
-        fault("blocks 9;", 3, 7);
-        fault("blocks 00;", 3, 7);
-        taken("blocks 2;", 1);
-        taken("blocks 8;", 1);
+        C.refused("blocks 1;", 3, 7);
+        C.refused("blocks 9;", 3, 7);
+        C.refused("blocks 00;", 3, 7);
+        C.taken("blocks 2;", 1);
+        C.taken("blocks 8;", 1);
         for (String omen : new String[] {"magpie", "sweep", "cat", "hearse", "guard"}) {
-            fault(omen + " 8;", 3, omen.length() + 1);
-            taken("blocks 8;" + omen + " 7;" + omen + " 0;", 3);
+            C.refused(omen + " 8;", 3, omen.length() + 1);
+            C.taken("blocks 8;" + omen + " 7;" + omen + " 0;", 3);
         }
-        fault("lock 8 0;", 3, 5);
-        fault("lock 0 8;", 3, 7);
-        fault("lock 3 3;", 3, 7);
-        fault("lock 3 03;", 3, 7);
+        C.refused("lock 8 0;", 3, 5);
+        C.refused("lock 0 8;", 3, 7);
+        C.refused("lock 3 3;", 3, 7);
+        C.refused("lock 3 03;", 3, 7);
         for (String faith : new String[] {"plain", "sceptic", "devout", "heathen"}) {
-            fault(faith + " up 10 0;", 3, faith.length() + 4);
-            fault(faith + " up 0 10;", 3, faith.length() + 6);
-            taken(faith + " down 9 9;" + faith + " up 0 0;", 2);
+            C.refused(faith + " up 10 0;", 3, faith.length() + 4);
+            C.refused(faith + " up 0 10;", 3, faith.length() + 6);
+            C.taken(faith + " down 9 9;" + faith + " up 0 0;", 2);
         }
     }
 
     private static void twice() {
-        fault("blocks 4;blocks 4;", 4, 9);
-        fault("blocks 4; blocks @", 4, 10);
-        fault("blocks 4;magpie 1;blocks 99;", 4, 18);
-        fault("magpie 1;magpie 1;", 4, 16);
-        fault("magpie 1;hearse  1;", 4, 17);
-        fault("guard 2;guard 2;", 4, 14);
-        taken("guard 2;magpie 2;", 2);
+        C.refused("blocks 4;blocks 4;", 4, 9);
+        C.refused("blocks 4; blocks @", 4, 10);
+        C.refused("blocks 4;magpie 1;blocks 99;", 4, 18);
+        C.refused("magpie 1;magpie 1;", 4, 16);
+        C.refused("magpie 1;hearse  1;", 4, 17);
+        C.refused("guard 2;guard 2;", 4, 14);
+        C.taken("guard 2;magpie 2;", 2);
     }
 
     private static void tooMany() {
-        fault("lock 0 1;lock 0 1;lock 1 0;lock 2 3;lock 0 1;", 5, 36);
-        fault("lock 0 1;lock 0 1;lock 1 0;lock 2 3;lock @", 5, 36);
-        taken("lock 0 1;lock 0 1;lock 1 0;lock 2 3;", 4);
+        C.refused("lock 0 1;lock 0 1;lock 1 0;lock 2 3;lock 0 1;", 5, 36);
+        C.refused("lock 0 1;lock 0 1;lock 1 0;lock 2 3;lock @", 5, 36);
+        C.taken("lock 0 1;lock 0 1;lock 1 0;lock 2 3;", 4);
         String four = "plain up 0 0;devout up 0 0;heathen up 0 0;sceptic up 0 0;";
-        taken(four, 4);
-        fault(four + "plain @", 5, four.length());
-        fault(four + " heathen", 5, four.length() + 1);
+        C.taken(four, 4);
+        C.refused(four + "plain @", 5, four.length());
+        C.refused(four + " heathen", 5, four.length() + 1);
     }
 
     private static void behindAll() {
-        fault("magpie 4;", 6, 9);
-        fault("guard 4; ", 6, 9);
-        fault("lock 0 4;", 6, 9);
-        fault("lock 4 0;", 6, 9);
-        fault("magpie 2;blocks 2;", 6, 18);
-        taken("magpie 7;blocks 8;", 2);
-        taken("magpie 4;blocks 5;", 2);
-        fault("magpie 1;lock 1 2;sweep 2;", 7, 26);
-        fault("magpie 1;sweep 2;lock 2 1; ", 7, 27);
-        fault("magpie 1;sweep 2;lock 2 1;guard 4;", 6, 34);
-        fault("blocks 3;magpie 1;sweep 3;lock 3 1;", 6, 35);
-        taken("magpie 1;lock 1 2;sweep 3;", 3);
-        fault("lock 0 1;lock 0 2;lock 0 3;lock 1 2;cat 1;cat 2;", 7, 48);
+        C.refused("magpie 4;", 6, 9);
+        C.refused("guard 4; ", 6, 9);
+        C.refused("lock 0 4;", 6, 9);
+        C.refused("lock 4 0;", 6, 9);
+        C.refused("magpie 2;blocks 2;", 6, 18);
+        C.taken("magpie 7;blocks 8;", 2);
+        C.taken("magpie 4;blocks 5;", 2);
+        C.refused("magpie 1;lock 1 2;sweep 2;", 7, 26);
+        C.refused("magpie 1;sweep 2;lock 2 1; ", 7, 27);
+        C.refused("magpie 1;sweep 2;lock 2 1;guard 4;", 6, 34);
+        C.refused("blocks 3;magpie 1;sweep 3;lock 3 1;", 6, 35);
+        C.taken("magpie 1;lock 1 2;sweep 3;", 3);
+        C.refused("lock 0 1;lock 0 2;lock 0 3;lock 1 2;cat 1;cat 2;", 7, 48);
     }
 
     private static void orderOfFaults() {
-        fault("blocks 9 @", 3, 7);
-        fault("magpie 7;cat 7 @", 4, 13);
-        fault("lock 0 0 @", 3, 7);
-        fault("lock 9 @", 3, 5);
-        fault("foo @", 2, 0);
-        fault("plain foo @", 2, 6);
-        fault("magpie 7;foo", 2, 9);
-        fault("blocks 5 @", 1, 9);
+        C.refused("blocks 9 @", 3, 7);
+        C.refused("magpie 7;cat 7 @", 4, 13);
+        C.refused("lock 0 0 @", 3, 7);
+        C.refused("lock 9 @", 3, 5);
+        C.refused("foo @", 2, 0);
+        C.refused("plain foo @", 2, 6);
+        C.refused("magpie 7;foo", 2, 9);
+        C.refused("blocks 5 @", 1, 9);
     }
 
     private static void refusedChangesNothing() {
