@@ -22,6 +22,10 @@ final class Checks {
         }
     }
 
+    int asked() {
+        return asked;
+    }
+
     void that(String what, boolean holds) {
         due(what, holds ? 1 : 0, 1);
     }

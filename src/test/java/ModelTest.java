@@ -12,23 +12,24 @@ public final class ModelTest {
     private final Random chance;
     private final OmenLine x = new OmenLine();
     private final Model y = new Model();
+    private final int askedBefore = C.asked();
 
     private ModelTest(long seed) {
         chance = new Random(seed);
     }
 
     public static void main(String[] args) {
-        for (int seed = 0; seed < 250; seed++) {
-            new ModelTest(seed).play(120);
+        for (int seed = 0; seed < 600; seed++) {
+            new ModelTest(seed).play();
         }
-        for (int seed = 0; seed < 4000; seed++) {
-            new ModelTest(1000 + seed).texts(6);
+        for (int seed = 0; seed < 12000; seed++) {
+            new ModelTest(1000 + seed).texts();
         }
         for (int seed = 0; seed < 3000; seed++) {
-            new ModelTest(10000 + seed).runs();
+            new ModelTest(20000 + seed).runs();
         }
         for (int seed = 0; seed < 600; seed++) {
-            new ModelTest(20000 + seed).best();
+            new ModelTest(30000 + seed).best();
         }
         C.finish();
     }
@@ -76,8 +77,8 @@ public final class ModelTest {
     }
 
     /** A likely text with some of its bytes changed, left out or put in. */
-    private void texts(int many) {
-        for (int i = 0; i < many; i++) {
+    private void texts() {
+        for (int i = 0; i < 2; i++) {
             StringBuilder s = new StringBuilder(likelyText());
             for (int k = chance.nextInt(4); k > 0 && s.length() > 0; k--) {
                 int place = chance.nextInt(s.length());
@@ -92,14 +93,16 @@ public final class ModelTest {
             feed(s.toString());
             C.due("text of <" + s + ">", x.text(), y.text());
             C.due("fault of <" + s + ">", x.fault(), y.fault());
-            state();
+            if (calls() < 380) {
+                state();
+            }
         }
     }
 
     private void runs() {
         do {
             tell();
-        } while (y.fault != 0);
+        } while (y.fault != 0 && calls() < 320);
         for (int t = 0; t < 4; t++) {
             C.due("home", x.home(t), y.home(t));
             C.due("at", x.at(t, 119), y.at(t, 119));
@@ -158,17 +161,20 @@ public final class ModelTest {
         C.due("torn", x.torn(), y.torn());
     }
 
-    private void play(int calls) {
+    /** Nothing is promised of an object behind its 512th call, so the last ones are kept for its state. */
+    private void play() {
         tell();
-        for (int i = 0; i < calls; i++) {
+        while (calls() < 220) {
             one(chance.nextInt(37));
             if (chance.nextInt(60) == 0) {
                 tell();
             }
-            if (i % 8 == 0) {
-                state();
-            }
         }
+        state();
+    }
+
+    private int calls() {
+        return C.asked() - askedBefore;
     }
 
     private void one(int which) {

@@ -239,9 +239,9 @@ public final class RefusedTest {
         Call[] calls = {x -> x.fault(), x -> x.rule(4), x -> x.block(1, 0), x -> x.lock(0, 0), x -> x.train(1, 3),
             x -> x.waits(2, 4), x -> x.home(0), x -> x.at(1, 119), x -> x.bump(0), x -> x.sum(0), x -> x.fewest(0),
             x -> x.fewest(1), x -> x.guards(0), x -> x.guards(1), x -> x.magpies(0), x -> x.magpies(1),
-            x -> x.starts(0), x -> x.starts(11), x -> x.allowed(0), x -> x.allowed(1), x -> x.convert(0), x -> x.convert(1),
-            x -> x.mean(5, 0), x -> x.luck(5, 1), x -> x.fits(0), x -> x.look(1, 0), x -> x.drift(-3, 20, 0),
-            x -> x.torn(), x -> x.count(5)};
+            x -> x.starts(0), x -> x.starts(11), x -> x.allowed(0), x -> x.allowed(1), x -> x.convert(0),
+            x -> x.convert(1), x -> x.mean(5, 0), x -> x.luck(5, 1), x -> x.fits(0), x -> x.look(1, 0),
+            x -> x.drift(-3, 20, 0), x -> x.torn(), x -> x.count(5)};
         for (int i = 0; i < calls.length; i++) {
             OmenLine x = full();
             long first = calls[i].on(x);

@@ -286,6 +286,19 @@ public final class RunEdgesTest {
         C.due("in the last", x.at(0, 64), 7);
         C.due("home", x.at(0, 65), NONE);
         C.due("behind 119", x.at(0, 119), NONE);
+        OmenLine y = Checks.line("blocks 8;guard 0;devout up 9 9;devout up 9 9;devout up 9 9;devout up 9 9;");
+        for (int b = 0; b < 8; b++) {
+            y.hang(b, 4);
+        }
+        // Each is kept out of 0 for 7 minutes more than the one ahead of it, and never again.
+        for (int t = 0; t < 4; t++) {
+            C.due("home", y.home(t), 65 + 7 * t);
+        }
+        C.due("the latest of all", y.at(3, 85), 7);
+        C.due("the latest of all", y.at(3, 86), NONE);
+        C.due("kept out", y.sum(3), 7 + 14 + 21);
+        C.due("waited", y.sum(2), 4 * 48);
+        C.due("cost", y.sum(0), 9 * (65 + 72 + 79 + 86));
     }
 
     private static void costOfThoseWhoDoNot() {

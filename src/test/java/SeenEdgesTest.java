@@ -270,6 +270,14 @@ public final class SeenEdgesTest {
         y.see(0, 0, 0);
         C.due("no FAITH", y.fits(0), 0);
         look("no FAITH", y, 0, NONE, NONE);
+        OmenLine z = Checks.line("blocks 8;sweep 0;magpie 1;plain up 0 1;");
+        int[] behindThree = {2, 3, 0, 1};
+        for (int faith = 0; faith < 4; faith++) {
+            z.forget(0);
+            z.see(0, 3, behindThree[faith]);
+            C.due("one alone", z.fits(0), 1 << faith);
+            look("one alone", z, 0, NONE, NONE);
+        }
     }
 
     private static void lookBeyond() {
@@ -303,7 +311,8 @@ public final class SeenEdgesTest {
         C.of("30 n times (1 to 20) by a seed: twenty times, all COSTS, summed");
         drifts(20, new int[][] {{113, 119, 170, 170, 113, 134, 143}, {180, 172, 200, 200, 180, 203, 195},
             {180, 220, 322, 322, 180, 285, 269}, {312, 265, 331, 331, 312, 334, 351},
-            {292, 277, 429, 429, 292, 354, 422}, {314, 432, 474, 474, 314, 431, 497}, {380, 395, 512, 512, 380, 452, 454}});
+            {292, 277, 429, 429, 292, 354, 422}, {314, 432, 474, 474, 314, 431, 497},
+            {380, 395, 512, 512, 380, 452, 454}});
     }
 
     private static void driftKeptByALock() {
